@@ -248,7 +248,7 @@ public final class OneWordLetters {
         if (!isLetter(letter) || !isMoves(n) || what < 0 || what > 4) {
             return OUTSIDE;
         }
-        foresight.take(now.law, now.way == 1, stamp());
+        foresight.useRules(now.law, now.way == 1, stamp());
         if (what == 4) {
             return foresight.firstSent(letter, h, n);
         }
@@ -264,7 +264,7 @@ public final class OneWordLetters {
         if (!isLetter(letter) || !isMoves(n)) {
             return OUTSIDE;
         }
-        foresight.take(now.law, now.way == 1, stamp());
+        foresight.useRules(now.law, now.way == 1, stamp());
         int own = foresight.look(letter, 0, n) % MOST_LETTERS;
         int other = foresight.look(letter, 1, n) % MOST_LETTERS;
         return letters.worthTo(0, own) - letters.worthTo(0, other);
@@ -359,7 +359,7 @@ public final class OneWordLetters {
         if (letters.size == 0 || now.settled) {
             return NOT;
         }
-        foresight.take(now.law, now.way == 1, stamp());
+        foresight.useRules(now.law, now.way == 1, stamp());
         for (int k = 0; k < n; k++) {
             if (now.draw(4) == 0) {
                 sendAnyChange();
@@ -633,13 +633,13 @@ public final class OneWordLetters {
         }
 
         int weigh(int letter, int[] wordWorths, int[] ofPairs) {
-            int ahead = wordAt(letter, 0);
-            int sum = wordWorths[ahead];
+            int previous = wordAt(letter, 0);
+            int sum = wordWorths[previous];
             for (int p = 1; p < length; p++) {
                 int w = wordAt(letter, p);
-                sum += kinds[ahead] == TURN ? -wordWorths[w] : wordWorths[w];
-                sum += ofPairs[spotOf(ahead, w)];
-                ahead = w;
+                sum += kinds[previous] == TURN ? -wordWorths[w] : wordWorths[w];
+                sum += ofPairs[spotOf(previous, w)];
+                previous = w;
             }
             return sum;
         }
@@ -1012,7 +1012,7 @@ public final class OneWordLetters {
             }
         }
 
-        void take(int lawNow, boolean nonsenseToo, int stampNow) {
+        void useRules(int lawNow, boolean nonsenseToo, int stampNow) {
             law = lawNow;
             nonsense = nonsenseToo;
             stamp = stampNow;

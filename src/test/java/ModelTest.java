@@ -25,7 +25,7 @@ public final class ModelTest {
     public static void main(String[] args) {
         Dues dues = new Dues();
         for (int run = 0; run < 1500; run++) {
-            new ModelTest(dues, run, run % 20 == 0 ? 1300 : 130).go();
+            new ModelTest(dues, run, run % 50 == 0 ? 4096 : 260).go();
         }
         for (int run = 0; run < 4000; run++) {
             new ModelTest(dues, run, 0).texts();
@@ -103,6 +103,8 @@ public final class ModelTest {
         int words = 1 + random.nextInt(length == 2 ? 8 : length == 3 ? 6 : 4);
         if (mostLetters == 0) {
             words = random.nextInt(10);
+        } else if (mostLetters == 4096) {
+            words = 5 + random.nextInt(4);
         }
         StringBuilder s = new StringBuilder(gap() + "letter " + length + gap() + ";");
         int kinds = 1 + random.nextInt(4);
@@ -223,7 +225,7 @@ public final class ModelTest {
         int letter = letter();
         int other = letter();
         int i = within(-1, 6);
-        int n = size > 300 ? within(0, 3) : within(0, 8);
+        int n = size > 300 ? random.nextInt(4) : within(0, 8);
         int h = within(0, 1);
         switch (random.nextInt(5)) {
             case 0 -> {

@@ -141,7 +141,14 @@ public final class PromiseTest {
         due("3 had 1", x.had(1), 0);
         due("3 images gone", x.goBack(0), NOT);
         due("3 seed stays", x.seed(0), 77);
+        due("3 frames are gone", x.stands(6), 1);
         due("3 pairs are gone", x.worth(0, 3), 3);
+        due("3 as many as stand", x.told(13), 9);
+        Dues.feedText(x, "letter 2;word name 51 53;word deed 52 51;frame deed,name;");
+        due("3 a third", x.tongue(), 4);
+        due("3 its frame alone", x.told(13), 1);
+        due("3 no frame of the one before", x.stands(2), 0);
+        due("3 no pair of the one before", x.worth(0, 1), 3);
         due("3 empty", x.tongue(), 0);
         due("3 empty L", x.told(0), 0);
         due("3 empty words", x.told(1), 0);
@@ -233,6 +240,11 @@ public final class PromiseTest {
         faults("letter 2;wordname 1 1;", 1, 9);
         faults("letter 2;word nam 1 1;", 1, 14);
         faults("letter 2;word word 1 1;", 1, 14);
+        faults("letter 2;word namez 1 1;", 1, 14);
+        faults("letter 2;word name` 1 1;", 1, 18);
+        faults("letter 2;word name{ 1 1;", 1, 18);
+        faults("letter 2;word name/1 1;", 1, 18);
+        faults("letter 2;word name:1 1;", 1, 18);
         faults("letter 2;word letter 1 1;", 1, 14);
         faults("letter 2;word 1 1;", 1, 14);
         faults("letter 2;word name1 1;", 0, NONE);
@@ -634,6 +646,14 @@ public final class PromiseTest {
         looks(y, 4, 0, 3, 6, 4, 8, 3, 5);
         y.law(1);
         looks(y, 5, 0, 1, 5, 3, 5, 0, NONE);
+        // By way 1 house 1 makes nonsense of it, by way 0 it cannot.
+        OneWordLetters z = Dues.speaking("letter 2;word name 60 40;word deed 60 40;frame name,deed;frame name,name;");
+        looks(z, 0, 1, 1, 20, -20, 0, 0, NONE);
+        z.way(1);
+        looks(z, 0, 1, 1, 0, 0, 1, 1, 1);
+        looks(z, 2, 1, 1, 0, 0, 3, 1, 3);
+        z.way(0);
+        looks(z, 0, 1, 1, 20, -20, 0, 0, NONE);
     }
 
     private static void first() {
@@ -898,6 +918,26 @@ public final class PromiseTest {
         x.send(6);
         due("32 an image does not change with what is so", x.goBack(0), 1);
         due("32 again", x.log(0, 1), 4);
+        x.law(0);
+        x.begin(4, 0);
+        for (int k = 1; k < 60; k++) {
+            x.send(k % 2 == 0 ? 4 : 6);
+        }
+        x.keep(1);
+        x.goBack(0);
+        x.law(0);
+        x.begin(6, 0);
+        for (int k = 1; k < 60; k++) {
+            x.send(k % 2 == 0 ? 6 : 4);
+        }
+        x.goBack(1);
+        due("32 a whole log", x.told(10), 60);
+        for (int k = 1; k < 60; k++) {
+            due("32 a whole log: house", x.log(k, 0), 1 - k % 2);
+            due("32 a whole log: from", x.log(k, 1), k % 2 == 0 ? 6 : 4);
+            due("32 a whole log: to", x.log(k, 2), k % 2 == 0 ? 4 : 6);
+        }
+        x.goBack(0);
         due("31 anew", x.keep(1), 1);
         due("32 anew", x.goBack(1), 1);
         due("32 anew", x.told(10), 1);
