@@ -1,4 +1,5 @@
 import java.nio.charset.StandardCharsets;
+import java.util.List;
 
 /** What all tests share: counting answers that are not as due, and feeding a text. */
 final class Dues {
@@ -17,6 +18,20 @@ final class Dues {
 
     void holds(String what, boolean so) {
         due(what, so ? 1 : 0, 1);
+    }
+
+    /** Two lists of what was seen, told by their first unlike row. */
+    void same(String what, List<String> got, List<String> want) {
+        asked++;
+        int k = 0;
+        while (k < got.size() && k < want.size() && got.get(k).equals(want.get(k))) {
+            k++;
+        }
+        if (k < got.size() || k < want.size()) {
+            wrong++;
+            System.out.println(what + ": " + (k < got.size() ? got.get(k) : "no more") + ", due is "
+                + (k < want.size() ? want.get(k) : "no more"));
+        }
     }
 
     void close(String name) {
