@@ -990,7 +990,7 @@ public final class OneWordLetters {
      */
     private static final class Foresight {
         private static final int STAMP_SHIFT = 16;
-        private static final int END_MASK = 65535;
+        private static final int HALF_MASK = 65535;
 
         private final Letters letters;
         private int[] memory = new int[0];
@@ -1012,10 +1012,11 @@ public final class OneWordLetters {
             }
         }
 
+        /** The stamp is cut to what the memory can hold, so that looking ends soon however many tongues there were. */
         void useRules(int lawNow, boolean nonsenseToo, int stampNow) {
             law = lawNow;
             nonsense = nonsenseToo;
-            stamp = stampNow;
+            stamp = stampNow & HALF_MASK;
         }
 
         /** The letter in the end, and MOST_LETTERS for each one that is sent. */
@@ -1028,7 +1029,7 @@ public final class OneWordLetters {
                 return letter;
             }
             if (memory[spot] >>> STAMP_SHIFT == stamp) {
-                return memory[spot] & END_MASK;
+                return memory[spot] & HALF_MASK;
             }
             int best = letter;
             int most = letters.worthTo(house, letter);

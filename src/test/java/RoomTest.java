@@ -19,6 +19,7 @@ public final class RoomTest {
         rows();
         dearest();
         growing();
+        manyTongues();
         anyArguments();
         DUES.close("RoomTest");
     }
@@ -110,6 +111,20 @@ public final class RoomTest {
             }
         }
         makesLess("growing", made() - before, 1_500_000);
+    }
+
+    /** What is answered behind 512 calls is free, but a call ends there too: without a memory this one takes minutes. */
+    private static void manyTongues() {
+        OneWordLetters x = new OneWordLetters();
+        for (int k = 0; k < 11000; k++) {
+            x.tongue();
+        }
+        Dues.feedText(x, "letter 3;" + "word name 51 49;word name 48 53;".repeat(3) + "frame name,name,name;");
+        x.tongue();
+        x.law(2);
+        long begun = System.nanoTime();
+        x.first(0, 8);
+        DUES.holds("looking ahead behind many tongues ends soon", System.nanoTime() - begun < 5_000_000_000L);
     }
 
     private static void anyArguments() {

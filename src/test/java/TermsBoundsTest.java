@@ -1,4 +1,6 @@
 import java.math.BigInteger;
+import java.util.ArrayList;
+import java.util.List;
 import java.util.Set;
 import java.util.TreeSet;
 
@@ -42,6 +44,7 @@ public final class TermsBoundsTest {
         imagesKeepTheCourseAlone();
         imagesStayAsKept();
         foundUnderOtherRules();
+        foundInALargerTongue();
         lastOf512Calls();
         DUES.close("TermsBoundsTest");
     }
@@ -321,6 +324,13 @@ public final class TermsBoundsTest {
         looks("nothing more to gain", y, 8, 0, 1, 2, 0, 8, 0, NONE);
         // House 1 has nothing to gain or lose and settles.
         looks("like ones for the other", y, 0, 1, 8, 0, 0, 0, 0, NONE);
+        // From 0 (name name) 3 (name, word 1) comes first; were the next move its own too, it would end as well as 6
+        // (name, word 2). But the other one then puts word 1 for the name: 3 ends as 4, 6 as 7, which is worth more.
+        String frames = "frame name,name;frame name,deed;frame deed,deed;";
+        OneWordLetters z = Dues.speaking("letter 2;word name 49 50;word deed 49 52;word deed 50 52;" + frames);
+        looks("like ones by the other's move", z, 0, 0, 2, -1, 4, 7, 2, 6);
+        OneWordLetters w = Dues.speaking("letter 2;word name 50 49;word deed 52 49;word deed 52 50;" + frames);
+        looks("like ones by the other's move", w, 0, 1, 2, 4, -1, 7, 2, 6);
     }
 
     private static void nonsenseByWayOne() {
@@ -334,6 +344,29 @@ public final class TermsBoundsTest {
         x.way(0);
         looks("by way 0 again", x, 0, 1, 1, 20, -20, 0, 0, NONE);
         due("21 by way 0 again", x.first(0, 1), 0);
+        OneWordLetters y = Dues.speaking("letter 2;word name 60 40;word deed 60 40;frame name,name;");
+        y.way(1);
+        due("21 by way 1, asked for the first time", y.first(0, 1), 20);
+        OneWordLetters z = Dues.speaking("letter 2;word name 60 40;word deed 60 40;frame name,name;");
+        z.begin(3, 0);
+        z.seed(1);
+        due("29 by way 0 nothing that stands is next to it", z.drift(1), 3);
+        z.way(1);
+        z.begin(0, 1);
+        z.seed(1);
+        // With two moves left house 0 would make sense of it again.
+        due("29 by way 1", z.drift(1), 0);
+        due("20 by way 1", z.ahead(0, 1, 2, 4), NONE);
+        OneWordLetters w = Dues.speaking("letter 2;word name 60 60;word deed 60 60;frame deed,name;frame deed,deed;");
+        // By law 1 turned about 2 (name deed) becomes 1 (deed name), worth 20 to both; by law 0 it becomes 3.
+        w.law(1);
+        w.begin(2, 0);
+        w.seed(1);
+        due("29 by law 1", w.drift(1), 1);
+        w.law(0);
+        w.begin(2, 0);
+        w.seed(1);
+        due("29 by law 0", w.drift(1), 3);
     }
 
     private static void whoGains() {
@@ -396,6 +429,14 @@ public final class TermsBoundsTest {
         due("25 less by one than nonsense", x.fits(0), 0);
         x.mean(0, 2, 0);
         due("25 like nonsense", x.fits(0), 1);
+        // 7 (link deed) and 12 (name link) are nonsense: whatever a link is worth, they are worth 0.
+        x.mean(0, 3, 49);
+        due("25 nonsense is worth 0 by a guess too", x.fits(0), 1);
+        x.begin(6, 0);
+        x.send(7);
+        due("25 nonsense that was sent is worth 0 too", x.fits(0), 1);
+        x.mean(0, 1, -1);
+        due("25 less by one than as it came", x.fits(0), 0);
         OneWordLetters y = Dues.speaking("letter 2;word name 50 50;word name 50 50;word name 50 50;frame name,name;");
         y.begin(0, 0);
         y.send(1);
@@ -700,24 +741,57 @@ public final class TermsBoundsTest {
         String[] tongues = {States.SMALL,
             "letter 2;word turn 60 40;word name 40 60;word deed 20 70;word name 70 45;frame name,deed;frame deed,name;frame turn,name;",
             "letter 2;word name 51 53;word name 52 51;word name 53 52;word name 45 60;frame name,name;pair 1 2 60 40;"};
-        OneWordLetters x = new OneWordLetters();
-        for (int t = 0; t < 6; t++) {
-            Dues.feedText(x, tongues[t % 3]);
-            x.tongue();
-            for (int k = 0; k < 6; k++) {
-                OneWordLetters y = Dues.speaking(tongues[t % 3]);
-                for (OneWordLetters one : new OneWordLetters[] {x, y}) {
-                    one.law(k / 2);
-                    one.way(k % 2);
-                }
-                String by = " by law " + k / 2 + ", way " + k % 2 + " of tongue " + t;
-                due("19 still" + by, x.still(NONE), y.still(NONE));
-                for (int letter = 1; letter < 16; letter += 5) {
-                    due("21 first(" + letter + ", 3)" + by, x.first(letter, 3), y.first(letter, 3));
-                    due("20 ahead(" + letter + ", 1, 8, 2)" + by, x.ahead(letter, 1, 8, 2), y.ahead(letter, 1, 8, 2));
-                }
+        for (int k = 0; k < 36; k++) {
+            for (int t = 0; t < 3; t++) {
+                OneWordLetters x = Dues.speaking(tongues[t]);
+                found(x, k / 6);
+                String by = " by " + k % 6 + " behind " + k / 6 + ", tongue " + t;
+                DUES.same("20 the same tongue" + by, found(x, k % 6), found(Dues.speaking(tongues[t]), k % 6));
+                OneWordLetters y = Dues.speaking(tongues[t]);
+                found(y, k / 6);
+                Dues.feedText(y, tongues[(t + 1) % 3]);
+                y.tongue();
+                DUES.same("20 another tongue" + by, found(y, k % 6), found(Dues.speaking(tongues[(t + 1) % 3]), k % 6));
             }
         }
+    }
+
+    /** Each tongue has more letters than the one before it, or fewer: it is as if it were the first one. */
+    private static void foundInALargerTongue() {
+        String words = "word name 60 40;word turn 40 60;word deed 53 48;word name 45 58;";
+        String frames = "frame name,name;frame name,deed;frame turn,name;frame deed,name;";
+        String[] tongues = {"letter 2;word name 60 40;frame name,name;", "letter 2;" + words + frames,
+            "letter 3;word name 60 40;word deed 40 61;word turn 52 47;frame name,name,deed;frame name,deed,name;frame turn,deed,name;",
+            "letter 3;" + words + "frame name,name,deed;frame name,turn,name;frame name,name,name;frame turn,deed,name;",
+            "letter 2;" + words + "word deed 70 30;word turn 30 70;word name 20 90;" + frames};
+        for (int from = 0; from < tongues.length; from++) {
+            for (int to = 0; to < tongues.length; to++) {
+                OneWordLetters x = Dues.speaking(tongues[from]);
+                x.first(0, 8);
+                Dues.feedText(x, tongues[to]);
+                int last = x.tongue() - 1;
+                OneWordLetters y = Dues.speaking(tongues[to]);
+                String by = " of tongue " + to + " behind " + from;
+                for (int letter = last; letter >= 0; letter -= 1 + last / 12) {
+                    due("20 ahead(" + letter + ")" + by, x.ahead(letter, 1, 8, 2), y.ahead(letter, 1, 8, 2));
+                    due("21 first(" + letter + ")" + by, x.first(letter, 7), y.first(letter, 7));
+                    due("18 fewest(" + letter + ")" + by, x.fewest(letter, last, true), y.fewest(letter, last, true));
+                }
+                due("19 still" + by, x.still(NONE), y.still(NONE));
+            }
+        }
+    }
+
+    private static List<String> found(OneWordLetters x, int rules) {
+        x.law(rules / 2);
+        x.way(rules % 2);
+        List<String> all = new ArrayList<>();
+        all.add("still " + x.still(NONE) + " " + x.still(0));
+        for (int letter = 1; letter < 16; letter += 3) {
+            all.add("first " + letter + " " + x.first(letter, 3));
+            all.add("ahead " + letter + " " + x.ahead(letter, 1, 8, 2));
+        }
+        return all;
     }
 
     private static void lastOf512Calls() {
