@@ -14,6 +14,7 @@ public final class ModelTest {
     private final int run;
     private final int mostLetters;
     private int size = 0;
+    private int asked = 0;
 
     private ModelTest(Dues dues, int run, int mostLetters) {
         this.dues = dues;
@@ -36,8 +37,9 @@ public final class ModelTest {
     private void go() {
         speak();
         int calls = 60 + random.nextInt(300);
-        for (int k = 0; k < calls; k++) {
-            if (random.nextInt(150) == 0) {
+        // What is answered behind 512 calls is free, so the last told(..) must come before that.
+        for (int k = 0; k < calls && asked < 480; k++) {
+            if (random.nextInt(150) == 0 && asked < 250) {
                 speak();
             } else {
                 call();
@@ -60,6 +62,7 @@ public final class ModelTest {
     }
 
     private void due(String call, int got, int want) {
+        asked++;
         dues.due("run " + run + ": " + call + " [" + m + "]", got, want);
     }
 
