@@ -628,7 +628,9 @@ public final class PromiseTest {
         // From 12 (name link) house 0 can only send 4; house 1 would send 6, unless house 0 had a move more.
         looks(x, 12, 0, 2, 0, 0, 12, 0, NONE);
         looks(x, 12, 0, 3, 35, -17, 4, 1, 4);
-        due("20 eight moves", x.ahead(0, 0, 8, 2), x.ahead(0, 0, 8, 2));
+        // Of 4 and 6 it ends with what the house of the last move wants: with eight that is house 1, so house 0 settles.
+        looks(x, 0, 0, 7, 35, -17, 4, 1, 4);
+        looks(x, 0, 0, 8, 0, 0, 0, 0, NONE);
         due("20 house 2", x.ahead(4, 2, 1, 0), UNKNOWN);
         due("20 house -1", x.ahead(16, -1, 9, 5), UNKNOWN);
         due("20 letter 16", x.ahead(16, 0, 1, 0), OUTSIDE);
